@@ -177,7 +177,10 @@ public final class AirSteps {
         return NONE;
     }
 
-    /** The cylinders of step k that are pushed the other way at state k; with groups they must have been found. */
+    /**
+     * The cylinders of step k that are pushed the other way at state k.
+     * Groups are found by firstClash, once for all states.
+     */
     private int clashing(int way, int k) {
         int pushed = 0;
         for (int j = 0; j < text.size(); j++) {
@@ -410,14 +413,16 @@ public final class AirSteps {
         }
 
         int leastOfLoop(Text text) {
-            int sum = 0;
-            for (int k = 0; k < text.size(); k++) sum += longest(least, text.endsOf(k));
-            return sum;
+            return sum(least, text);
         }
 
         int mostOfLoop(Text text) {
+            return sum(most, text);
+        }
+
+        private static int sum(int[] ticks, Text text) {
             int sum = 0;
-            for (int k = 0; k < text.size(); k++) sum += longest(most, text.endsOf(k));
+            for (int k = 0; k < text.size(); k++) sum += longest(ticks, text.endsOf(k));
             return sum;
         }
 
@@ -434,12 +439,13 @@ public final class AirSteps {
             return found;
         }
 
+        /** A step is done when all its moves are: the longest of them tells. */
         private static int longest(int[] ticks, int ends) {
-            int longest = 0;
+            int most = 0;
             for (int end = 0; end < ticks.length; end++) {
-                if (has(ends, end)) longest = Math.max(longest, ticks[end]);
+                if (has(ends, end)) most = Math.max(most, ticks[end]);
             }
-            return longest;
+            return most;
         }
     }
 

@@ -1,29 +1,5 @@
 /** Promises 6 to 10: clash, clashOf, groups, cut, memories. */
-public final class ClashGroupsTest {
-    private static int wrong = 0;
-
-    private static void due(String call, int got, int want) {
-        if (got == want) return;
-        wrong++;
-        System.out.println(call + " answered " + got + ", due is " + want);
-    }
-
-    /** A text like "A+ B+C+ A- B-C-". */
-    private static AirSteps text(String steps) {
-        AirSteps x = new AirSteps();
-        for (String step : steps.split(" ")) {
-            int outs = 0;
-            int ins = 0;
-            for (int i = 0; i + 1 < step.length(); i += 2) {
-                int bit = 1 << (step.charAt(i) - 'A');
-                if (step.charAt(i + 1) == '+') outs |= bit;
-                else ins |= bit;
-            }
-            x.step(outs, ins);
-        }
-        return x;
-    }
-
+public final class ClashGroupsTest extends Checks {
     public static void main(String[] args) {
         refusals();
         clashes();
@@ -31,29 +7,28 @@ public final class ClashGroupsTest {
         cuts();
         memoryNumbers();
         changedTexts();
-        System.out.println(wrong == 0 ? "ClashGroupsTest: all as due" : "ClashGroupsTest: " + wrong + " wrong");
-        if (wrong != 0) System.exit(1);
+        end("ClashGroupsTest");
     }
 
     private static void checkRefused(String when, AirSteps x) {
         for (int way = 0; way < 2; way++) {
-            due(when + ": clash(" + way + ")", x.clash(way), AirSteps.NOT);
-            due(when + ": clashOf(" + way + ")", x.clashOf(way), AirSteps.NOT);
+            due(when + ": clash(" + way + ")", x.clash(way), NOT);
+            due(when + ": clashOf(" + way + ")", x.clashOf(way), NOT);
         }
         checkBadWays(when, x);
-        due(when + ": groups()", x.groups(), AirSteps.NOT);
-        due(when + ": cut(0)", x.cut(0), AirSteps.NOT);
-        due(when + ": cut(1)", x.cut(1), AirSteps.NOT);
-        due(when + ": cut(-1)", x.cut(-1), AirSteps.BAD);
-        due(when + ": cut(min)", x.cut(Integer.MIN_VALUE), AirSteps.BAD);
-        due(when + ": memories()", x.memories(), AirSteps.NOT);
+        due(when + ": groups()", x.groups(), NOT);
+        due(when + ": cut(0)", x.cut(0), NOT);
+        due(when + ": cut(1)", x.cut(1), NOT);
+        due(when + ": cut(-1)", x.cut(-1), BAD);
+        due(when + ": cut(min)", x.cut(MIN), BAD);
+        due(when + ": memories()", x.memories(), NOT);
     }
 
     private static void checkBadWays(String when, AirSteps x) {
-        int[] bad = {-1, 2, 3, Integer.MIN_VALUE, Integer.MAX_VALUE};
+        int[] bad = {-1, 2, 3, MIN, MAX};
         for (int way : bad) {
-            due(when + ": clash(" + way + ")", x.clash(way), AirSteps.BAD);
-            due(when + ": clashOf(" + way + ")", x.clashOf(way), AirSteps.BAD);
+            due(when + ": clash(" + way + ")", x.clash(way), BAD);
+            due(when + ": clashOf(" + way + ")", x.clashOf(way), BAD);
         }
     }
 
@@ -71,8 +46,8 @@ public final class ClashGroupsTest {
         AirSteps x = text(steps);
         due(steps + ": clashOf(0)", x.clashOf(0), cylinder);
         due(steps + ": clash(0)", x.clash(0), state);
-        due(steps + ": clash(1)", x.clash(1), AirSteps.NONE);
-        due(steps + ": clashOf(1)", x.clashOf(1), AirSteps.NONE);
+        due(steps + ": clash(1)", x.clash(1), NONE);
+        due(steps + ": clashOf(1)", x.clashOf(1), NONE);
         due(steps + ": clash(0) again", x.clash(0), state);
         checkBadWays(steps, x);
     }
@@ -94,13 +69,13 @@ public final class ClashGroupsTest {
     }
 
     private static void noClashes() {
-        checkClash("A+ A-", AirSteps.NONE, AirSteps.NONE);
-        checkClash("A+ B+ A- B-", AirSteps.NONE, AirSteps.NONE);
-        checkClash("A+B+C+D+E+F+ A-B-C-D-E-F-", AirSteps.NONE, AirSteps.NONE);
-        checkClash("A+ B+C+ A- B-C-", AirSteps.NONE, AirSteps.NONE);
-        checkClash("A+ B+ C+ D+ E+ F+ A- B- C- D- E- F-", AirSteps.NONE, AirSteps.NONE);
+        checkClash("A+ A-", NONE, NONE);
+        checkClash("A+ B+ A- B-", NONE, NONE);
+        checkClash("A+B+C+D+E+F+ A-B-C-D-E-F-", NONE, NONE);
+        checkClash("A+ B+C+ A- B-C-", NONE, NONE);
+        checkClash("A+ B+ C+ D+ E+ F+ A- B- C- D- E- F-", NONE, NONE);
         // the same move told twice is no push the other way
-        checkClash("A+B+ A-C+ A+C- B-C+ A-C-", AirSteps.NONE, AirSteps.NONE);
+        checkClash("A+B+ A-C+ A+C- B-C+ A-C-", NONE, NONE);
     }
 
     private static void checkCuts(String steps, int... cuts) {
@@ -108,12 +83,12 @@ public final class ClashGroupsTest {
         due(steps + ": groups()", x.groups(), cuts.length);
         for (int i = 0; i < cuts.length; i++) due(steps + ": cut(" + i + ")", x.cut(i), cuts[i]);
         due(steps + ": groups() again", x.groups(), cuts.length);
-        due(steps + ": cut behind the last", x.cut(cuts.length), AirSteps.BAD);
-        due(steps + ": cut(-1)", x.cut(-1), AirSteps.BAD);
-        due(steps + ": cut(min)", x.cut(Integer.MIN_VALUE), AirSteps.BAD);
-        due(steps + ": cut(max)", x.cut(Integer.MAX_VALUE), AirSteps.BAD);
-        due(steps + ": clash(1)", x.clash(1), AirSteps.NONE);
-        due(steps + ": clashOf(1)", x.clashOf(1), AirSteps.NONE);
+        due(steps + ": cut behind the last", x.cut(cuts.length), BAD);
+        due(steps + ": cut(-1)", x.cut(-1), BAD);
+        due(steps + ": cut(min)", x.cut(MIN), BAD);
+        due(steps + ": cut(max)", x.cut(MAX), BAD);
+        due(steps + ": clash(1)", x.clash(1), NONE);
+        due(steps + ": clashOf(1)", x.clashOf(1), NONE);
     }
 
     private static void cuts() {
@@ -164,11 +139,11 @@ public final class ClashGroupsTest {
         x.drop();
         x.step(0, 1);
         x.step(0, 2);
-        due("second text: clash(0)", x.clash(0), AirSteps.NONE);
+        due("second text: clash(0)", x.clash(0), NONE);
         due("second text: memories()", x.memories(), 0);
         x.step(0, 2);
         due("step 4 is wrong: sound()", x.sound(), 4);
-        due("not sound: groups()", x.groups(), AirSteps.NOT);
+        due("not sound: groups()", x.groups(), NOT);
         x.drop();
         x.step(1, 0);
         x.step(0, 1);

@@ -12,18 +12,11 @@ import java.util.Set;
 import java.util.TreeSet;
 
 /** The public face, the words that the language leaves out, and wild arguments in any state. */
-public final class FaceTest {
+public final class FaceTest extends Checks {
     private static final String[] METHODS = {"step(int,int)", "drop()", "sound()", "state(int)", "clash(int)",
         "clashOf(int)", "groups()", "cut(int)", "memories()", "pace(int,boolean,int,int)", "span(int)",
         "law(int,boolean,int,boolean)", "repeal(int)", "breach()", "home(int)", "way(int,int)", "stops(int)",
         "explains(int)", "count(int)"};
-    private static int wrong = 0;
-
-    private static void due(String what, Object got, Object want) {
-        if (got.equals(want)) return;
-        wrong++;
-        System.out.println(what + " is " + got + ", due is " + want);
-    }
 
     public static void main(String[] args) throws Exception {
         constants();
@@ -32,8 +25,7 @@ public final class FaceTest {
         classesInside();
         wordsLeftOut();
         wildArguments();
-        System.out.println(wrong == 0 ? "FaceTest: all as due" : "FaceTest: " + wrong + " wrong");
-        if (wrong != 0) System.exit(1);
+        end("FaceTest");
     }
 
     private static boolean isHidden(Member member) {
@@ -111,8 +103,8 @@ public final class FaceTest {
     }
 
     private static void wildArguments() {
-        int[] wild = {Integer.MIN_VALUE, -65, -12, -1, 0, 1, 5, 6, 11, 12, 15, 16, 17, 31, 63, 64, 127, 4096,
-            Integer.MAX_VALUE};
+        int[] wild = {MIN, -65, -12, -1, 0, 1, 5, 6, 11, 12, 15, 16, 17, 31, 63, 64, 127, 4096,
+            MAX};
         for (int kind = 0; kind < 4; kind++) {
             for (int a : wild) {
                 for (int b : wild) callAll(inState(kind), a, b);

@@ -1,20 +1,5 @@
 /** Promises 18 and 19: stops, explains. */
-public final class SensorsTest {
-    private static int wrong = 0;
-
-    private static void due(String call, int got, int want) {
-        if (got == want) return;
-        wrong++;
-        System.out.println(call + " answered " + got + ", due is " + want);
-    }
-
-    /** Pairs: outs, ins of one step and the next. */
-    private static AirSteps text(int... pairs) {
-        AirSteps x = new AirSteps();
-        for (int i = 0; i + 1 < pairs.length; i += 2) x.step(pairs[i], pairs[i + 1]);
-        return x;
-    }
-
+public final class SensorsTest extends Checks {
     public static void main(String[] args) {
         refused("no steps", new AirSteps(), 0);
         refused("open end", text(1, 0, 2, 1), 2);
@@ -26,27 +11,26 @@ public final class SensorsTest {
         check("twice", text(1, 0, 0, 1, 1, 0, 0, 1, 2, 0, 0, 2), 1, 0, 6, 1, 0, 2, 7, 5);
         // the last step tells the trigger of the first one, not that behind it
         check("last and middle", text(1, 0, 0, 1, 2, 0, 1, 0, 0, 3), 0, 0, 1, 0, 6, 1, 7, 3);
-        System.out.println(wrong == 0 ? "SensorsTest: all as due" : "SensorsTest: " + wrong + " wrong");
-        if (wrong != 0) System.exit(1);
+        end("SensorsTest");
     }
 
     private static void badArguments(String name, AirSteps x, int steps) {
-        int[] bad = {-1, 12, 13, Integer.MIN_VALUE, Integer.MAX_VALUE};
-        for (int sensor : bad) due(name + ": stops(" + sensor + ")", x.stops(sensor), AirSteps.BAD);
-        int[] none = {-1, steps, 16, Integer.MIN_VALUE, Integer.MAX_VALUE};
-        for (int step : none) due(name + ": explains(" + step + ")", x.explains(step), AirSteps.BAD);
+        int[] bad = {-1, 12, 13, MIN, MAX};
+        for (int sensor : bad) due(name + ": stops(" + sensor + ")", x.stops(sensor), BAD);
+        int[] none = {-1, steps, 16, MIN, MAX};
+        for (int step : none) due(name + ": explains(" + step + ")", x.explains(step), BAD);
     }
 
     private static void refused(String name, AirSteps x, int steps) {
-        for (int s = 0; s < 12; s++) due(name + ": stops(" + s + ")", x.stops(s), AirSteps.NOT);
-        for (int k = 0; k < steps; k++) due(name + ": explains(" + k + ")", x.explains(k), AirSteps.NOT);
+        for (int s = 0; s < 12; s++) due(name + ": stops(" + s + ")", x.stops(s), NOT);
+        for (int k = 0; k < steps; k++) due(name + ": explains(" + k + ")", x.explains(k), NOT);
         badArguments(name, x, steps);
     }
 
     /** Pairs: a sensor and the step ahead of which it stops; all others stop nothing. */
     private static void check(String name, AirSteps x, int... pairs) {
         int[] stops = new int[12];
-        java.util.Arrays.fill(stops, AirSteps.NONE);
+        java.util.Arrays.fill(stops, NONE);
         for (int i = 0; i + 1 < pairs.length; i += 2) stops[pairs[i]] = pairs[i + 1];
         int steps = x.count(0);
         int[] explains = new int[steps];

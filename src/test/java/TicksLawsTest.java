@@ -1,22 +1,5 @@
 /** Promises 11 to 17: pace, span, law, repeal, breach, home, way. */
-public final class TicksLawsTest {
-    private static final int MIN = Integer.MIN_VALUE;
-    private static final int MAX = Integer.MAX_VALUE;
-    private static int wrong = 0;
-
-    private static void due(String call, int got, int want) {
-        if (got == want) return;
-        wrong++;
-        System.out.println(call + " answered " + got + ", due is " + want);
-    }
-
-    /** Pairs: outs, ins of one step and the next. */
-    private static AirSteps text(int... pairs) {
-        AirSteps x = new AirSteps();
-        for (int i = 0; i + 1 < pairs.length; i += 2) x.step(pairs[i], pairs[i + 1]);
-        return x;
-    }
-
+public final class TicksLawsTest extends Checks {
     public static void main(String[] args) {
         pacesRefused();
         pacesAtTheEdges();
@@ -33,8 +16,7 @@ public final class TicksLawsTest {
         homeWithLaws();
         homeByGoingOut();
         noWayHome();
-        System.out.println(wrong == 0 ? "TicksLawsTest: all as due" : "TicksLawsTest: " + wrong + " wrong");
-        if (wrong != 0) System.exit(1);
+        end("TicksLawsTest");
     }
 
     private static void pacesRefused() {
@@ -42,8 +24,8 @@ public final class TicksLawsTest {
         int[][] bad = {{-1, 1, 1}, {6, 1, 1}, {MIN, 1, 1}, {MAX, 1, 1}, {0, 0, 1}, {0, 0, 0}, {0, -1, 5}, {0, MIN, 5},
             {0, 5, 101}, {0, 101, 101}, {0, 1, MAX}, {0, 5, 4}, {0, 100, 99}, {0, 1, 0}, {0, MAX, MIN}};
         for (int[] b : bad) {
-            due("pace(" + b[0] + ", true, " + b[1] + ", " + b[2] + ")", x.pace(b[0], true, b[1], b[2]), AirSteps.BAD);
-            due("pace(" + b[0] + ", false, " + b[1] + ", " + b[2] + ")", x.pace(b[0], false, b[1], b[2]), AirSteps.BAD);
+            due("pace(" + b[0] + ", true, " + b[1] + ", " + b[2] + ")", x.pace(b[0], true, b[1], b[2]), BAD);
+            due("pace(" + b[0] + ", false, " + b[1] + ", " + b[2] + ")", x.pace(b[0], false, b[1], b[2]), BAD);
         }
         due("span(0) behind refused paces", x.span(0), 2);
         due("span(1) behind refused paces", x.span(1), 2);
@@ -98,22 +80,22 @@ public final class TicksLawsTest {
         AirSteps open = text(1, 0);
         AirSteps loop = text(1, 0, 0, 1);
         for (int way = 0; way < 3; way++) {
-            due("span(" + way + ") without steps", none.span(way), AirSteps.NOT);
-            due("span(" + way + "), not sound", open.span(way), AirSteps.NOT);
+            due("span(" + way + ") without steps", none.span(way), NOT);
+            due("span(" + way + "), not sound", open.span(way), NOT);
         }
         int[] bad = {-1, 3, MIN, MAX};
         for (int way : bad) {
-            due("span(" + way + ") without steps", none.span(way), AirSteps.BAD);
-            due("span(" + way + "), not sound", open.span(way), AirSteps.BAD);
-            due("span(" + way + ")", loop.span(way), AirSteps.BAD);
+            due("span(" + way + ") without steps", none.span(way), BAD);
+            due("span(" + way + "), not sound", open.span(way), BAD);
+            due("span(" + way + ")", loop.span(way), BAD);
         }
     }
 
     private static void checkBadLaws(AirSteps x) {
         int[][] bad = {{0, 0}, {5, 5}, {6, 0}, {0, 6}, {-1, 0}, {0, -1}, {MIN, 0}, {0, MIN}, {MAX, 0}, {0, MAX}, {6, 6}};
         for (int[] b : bad) {
-            due("law(" + b[0] + ", true, " + b[1] + ", false)", x.law(b[0], true, b[1], false), AirSteps.BAD);
-            due("law(" + b[0] + ", false, " + b[1] + ", true)", x.law(b[0], false, b[1], true), AirSteps.BAD);
+            due("law(" + b[0] + ", true, " + b[1] + ", false)", x.law(b[0], true, b[1], false), BAD);
+            due("law(" + b[0] + ", false, " + b[1] + ", true)", x.law(b[0], false, b[1], true), BAD);
         }
     }
 
@@ -127,26 +109,26 @@ public final class TicksLawsTest {
     private static void lawsFull() {
         AirSteps x = new AirSteps();
         for (int i = 0; i < 12; i++) due("law " + i, x.law(5, true, 0, true), i);
-        due("law 12", x.law(0, false, 1, false), AirSteps.FULL);
-        due("law 12 again", x.law(5, true, 0, true), AirSteps.FULL);
+        due("law 12", x.law(0, false, 1, false), FULL);
+        due("law 12 again", x.law(5, true, 0, true), FULL);
         checkBadLaws(x);
         due("count(1) of 12 laws", x.count(1), 12);
         due("home(1) of 12 laws", x.home(1), 1);
-        due("repeal(12)", x.repeal(12), AirSteps.BAD);
+        due("repeal(12)", x.repeal(12), BAD);
         due("repeal(11)", x.repeal(11), 1);
         due("law 11 anew", x.law(0, false, 1, false), 11);
         due("home(1) with it", x.home(1), 3);
-        due("law 12 once more", x.law(0, false, 1, false), AirSteps.FULL);
+        due("law 12 once more", x.law(0, false, 1, false), FULL);
     }
 
     private static void repealed() {
         AirSteps x = text(1, 0, 2, 0, 4, 0, 0, 7);
-        due("repeal(0) of none", x.repeal(0), AirSteps.BAD);
+        due("repeal(0) of none", x.repeal(0), BAD);
         x.law(0, true, 5, false);
         x.law(1, true, 5, false);
         x.law(2, true, 5, false);
         int[] bad = {-1, 3, MIN, MAX};
-        for (int law : bad) due("repeal(" + law + ")", x.repeal(law), AirSteps.BAD);
+        for (int law : bad) due("repeal(" + law + ")", x.repeal(law), BAD);
         due("count(1) behind refused repeals", x.count(1), 3);
         due("breach() of three laws", x.breach(), 0);
         due("repeal(0)", x.repeal(0), 1);
@@ -154,23 +136,23 @@ public final class TicksLawsTest {
         due("repeal(1): that of cylinder 2", x.repeal(1), 1);
         due("breach() without the last", x.breach(), 1);
         due("count(1) of one", x.count(1), 1);
-        due("repeal(1) of one", x.repeal(1), AirSteps.BAD);
+        due("repeal(1) of one", x.repeal(1), BAD);
         due("law(2, ..) again", x.law(2, true, 5, false), 1);
         due("repeal(0) of two", x.repeal(0), 1);
         due("breach() of the last alone", x.breach(), 2);
         due("repeal(0) of one", x.repeal(0), 1);
-        due("breach() of none", x.breach(), AirSteps.NONE);
-        due("repeal(0) of none again", x.repeal(0), AirSteps.BAD);
+        due("breach() of none", x.breach(), NONE);
+        due("repeal(0) of none again", x.repeal(0), BAD);
     }
 
     private static void breachByState() {
         AirSteps x = text(1, 0, 2, 0, 0, 1, 0, 2);
-        due("breach() without laws", x.breach(), AirSteps.NONE);
+        due("breach() without laws", x.breach(), NONE);
         int[] want = {
             // cylinder 0: IN while 1 IN, IN while 1 OUT, OUT while 1 IN, OUT while 1 OUT
-            AirSteps.NONE, 2, 0, AirSteps.NONE,
+            NONE, 2, 0, NONE,
             // cylinder 1 likewise, of cylinder 0
-            3, AirSteps.NONE, AirSteps.NONE, 1};
+            3, NONE, NONE, 1};
         for (int i = 0; i < 8; i++) {
             int a = i / 4;
             boolean out = i / 2 % 2 == 1;
@@ -191,10 +173,10 @@ public final class TicksLawsTest {
         due("breach(): both move, the one as it says", x.breach(), 0);
         x.repeal(0);
         x.law(0, false, 1, false);
-        due("breach(): 0 goes in while 1 is out", x.breach(), AirSteps.NONE);
+        due("breach(): 0 goes in while 1 is out", x.breach(), NONE);
         x.repeal(0);
         x.law(1, false, 0, true);
-        due("breach(): both move, but the one not as it says", x.breach(), AirSteps.NONE);
+        due("breach(): both move, but the one not as it says", x.breach(), NONE);
         AirSteps y = text(1, 0, 2, 1, 0, 2);
         y.law(0, false, 1, true);
         due("breach(): the one goes in, the other out", y.breach(), 1);
@@ -203,15 +185,15 @@ public final class TicksLawsTest {
         due("breach(): the other one named first", y.breach(), 1);
         y.repeal(0);
         y.law(0, true, 1, true);
-        due("breach(): 0 goes out alone", y.breach(), AirSteps.NONE);
+        due("breach(): 0 goes out alone", y.breach(), NONE);
     }
 
     private static void breachRefused() {
         AirSteps x = new AirSteps();
-        due("breach() without steps", x.breach(), AirSteps.NOT);
+        due("breach() without steps", x.breach(), NOT);
         x.step(1, 0);
         x.law(0, true, 1, false);
-        due("breach(), not sound", x.breach(), AirSteps.NOT);
+        due("breach(), not sound", x.breach(), NOT);
         x.step(0, 1);
         due("breach(), sound", x.breach(), 0);
     }
@@ -219,9 +201,9 @@ public final class TicksLawsTest {
     private static void checkWay(String name, AirSteps x, int state, int... moves) {
         due(name + ": home(" + state + ")", x.home(state), moves.length);
         for (int i = 0; i < moves.length; i++) due(name + ": way(" + state + ", " + i + ")", x.way(state, i), moves[i]);
-        due(name + ": way behind the last", x.way(state, moves.length), AirSteps.NONE);
-        due(name + ": way(" + state + ", max)", x.way(state, MAX), AirSteps.NONE);
-        due(name + ": way(" + state + ", -1)", x.way(state, -1), AirSteps.BAD);
+        due(name + ": way behind the last", x.way(state, moves.length), NONE);
+        due(name + ": way(" + state + ", max)", x.way(state, MAX), NONE);
+        due(name + ": way(" + state + ", -1)", x.way(state, -1), BAD);
     }
 
     private static void homeWithoutLaws() {
@@ -232,12 +214,12 @@ public final class TicksLawsTest {
         checkWay("no laws", x, 63, 0, 1, 2, 3, 4, 5);
         int[] bad = {-1, 64, MIN, MAX};
         for (int state : bad) {
-            due("home(" + state + ")", x.home(state), AirSteps.BAD);
-            due("way(" + state + ", 0)", x.way(state, 0), AirSteps.BAD);
-            due("way(" + state + ", -1)", x.way(state, -1), AirSteps.BAD);
+            due("home(" + state + ")", x.home(state), BAD);
+            due("way(" + state + ", 0)", x.way(state, 0), BAD);
+            due("way(" + state + ", -1)", x.way(state, -1), BAD);
         }
-        due("way(0, -1)", x.way(0, -1), AirSteps.BAD);
-        due("way(0, min)", x.way(0, MIN), AirSteps.BAD);
+        due("way(0, -1)", x.way(0, -1), BAD);
+        due("way(0, min)", x.way(0, MIN), BAD);
     }
 
     private static void homeWithLaws() {
@@ -273,11 +255,11 @@ public final class TicksLawsTest {
         x.law(2, false, 3, false);
         for (int state = 0; state < 64; state++) {
             boolean stuck = (state & 4) != 0;
-            due("stuck: home(" + state + ")", x.home(state), stuck ? AirSteps.NONE : Integer.bitCount(state));
-            if (stuck) due("stuck: way(" + state + ", 0)", x.way(state, 0), AirSteps.NONE);
+            due("stuck: home(" + state + ")", x.home(state), stuck ? NONE : Integer.bitCount(state));
+            if (stuck) due("stuck: way(" + state + ", 0)", x.way(state, 0), NONE);
         }
-        due("stuck: way(4, -1)", x.way(4, -1), AirSteps.BAD);
-        due("stuck: way(4, max)", x.way(4, MAX), AirSteps.NONE);
+        due("stuck: way(4, -1)", x.way(4, -1), BAD);
+        due("stuck: way(4, max)", x.way(4, MAX), NONE);
         due("stuck: repeal(0)", x.repeal(0), 1);
         checkWay("free again", x, 12, 2, 3);
         checkWay("free again", x, 4, 13, 2, 3);

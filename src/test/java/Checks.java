@@ -8,6 +8,10 @@ abstract class Checks {
     /** The text of 16 steps that has no two steps side by side in one group. */
     static final String SIXTEEN = "A+ A- A+ A- A+ A- A+ A- A+ A- A+ A- A+ A- A+ A-";
 
+    interface Call {
+        int on(AirSteps x);
+    }
+
     private static String sentence = "";
     private static int wrong = 0;
 

@@ -260,6 +260,21 @@ public final class PromisesTest extends Checks {
         due("repeal(0) of none", x.repeal(0), BAD);
         due("home(32) of none", x.home(32), 1);
         due("a law behind it", x.law(0, true, 1, true), 0);
+        for (int gone = 0; gone < 12; gone++) checkOneGone(gone);
+    }
+
+    /** Law i is broken by step i alone, so that breach() tells which law is number 0. */
+    private static void checkOneGone(int gone) {
+        AirSteps x = text("A+ B+ C+ D+ E+ F+ A- B- C- D- E- F-");
+        for (int i = 0; i < 12; i++) x.law(i % 6, i < 6, (i + 1) % 6, i >= 5 && i < 11);
+        due("repeal(" + gone + ")", x.repeal(gone), 1);
+        for (int i = 0; i < 12; i++) {
+            if (i == gone) continue;
+            due("law " + gone + " is gone, law " + i + " is number 0: breach()", x.breach(), i);
+            due("repeal(0)", x.repeal(0), 1);
+        }
+        due("law " + gone + " is gone, and all others: breach()", x.breach(), NONE);
+        due("no law is left: count(1)", x.count(1), 0);
     }
 
     private static void breach() {

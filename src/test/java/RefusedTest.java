@@ -18,10 +18,6 @@ public final class RefusedTest extends Checks {
         end("RefusedTest");
     }
 
-    private interface Call {
-        int on(AirSteps x);
-    }
-
     private record Refused(String name, int want, Call call) { }
 
     private static AirSteps made(int kind) {

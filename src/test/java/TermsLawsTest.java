@@ -180,11 +180,17 @@ public final class TermsLawsTest extends Checks {
         checkBreach("A+ B+ B- A-", false, true, NONE);
     }
 
-    /** The breach of a law about cylinder 0 while 1 is at an end. */
+    /** The breach of a law about A while B is at an end, A and B being each pair of cylinders. */
     private static void checkBreach(String steps, boolean out, boolean isOut, int want) {
-        AirSteps x = text(steps);
-        x.law(0, out, 1, isOut);
-        due(steps + ", law(0, " + out + ", 1, " + isOut + "): breach()", x.breach(), want);
+        for (int a = 0; a < 6; a++) {
+            for (int b = 0; b < 6; b++) {
+                if (a == b) continue;
+                String named = steps.replace('A', 'a').replace('B', (char) ('A' + b)).replace('a', (char) ('A' + a));
+                AirSteps x = text(named);
+                x.law(a, out, b, isOut);
+                due(named + ", law(" + a + ", " + out + ", " + b + ", " + isOut + "): breach()", x.breach(), want);
+            }
+        }
     }
 
     private static void notInOneStep() {
@@ -208,8 +214,11 @@ public final class TermsLawsTest extends Checks {
         checkBreach("A+ B+ A-B-", false, true, 2);
         checkBreach("A+ B+ A-B-", false, false, 2);
         checkBreach("A+ B+ A-B-", true, true, NONE);
-        // a cylinder that the law does not name may move with it
-        checkBreach("A+C+ B+ A-C- B-", true, true, NONE);
+        // cylinders that the law does not name may move with it
+        AirSteps x = text("A+C+D+ B+E+F+ A-C-E- B-D-F-");
+        x.law(0, true, 1, true);
+        x.law(1, false, 0, true);
+        due("others move with it: breach()", x.breach(), NONE);
     }
 
     private static void firstStepThatBreaksALaw() {
@@ -335,7 +344,10 @@ public final class TermsLawsTest extends Checks {
         due("explains(3): A is out stops it sooner", x.explains(3), 2);
         due("explains(4): A is in stops it sooner", x.explains(4), 0);
         due("explains(5)", x.explains(5), 1 << 8);
-        due("explains(15) of 16: none", text(SIXTEEN).explains(15), 0);
+        AirSteps full = text(SIXTEEN);
+        due("explains(2) of 16: A is in stops it ahead of step 0", full.explains(2), 0);
+        due("explains(14) of 16: A is in stops it ahead of step 0", full.explains(14), 0);
+        due("explains(15) of 16: A is out stops it ahead of step 1", full.explains(15), 0);
         due("explains(15) of 16: one",
             text("A+ A- A+ A- A+ A- A+ A- A+ A- A+ A- A+ A- F+ F-").explains(15), 1 << 11);
     }

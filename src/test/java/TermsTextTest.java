@@ -28,10 +28,6 @@ public final class TermsTextTest extends Checks {
         end("TermsTextTest");
     }
 
-    private interface Call {
-        int on(AirSteps x);
-    }
-
     private static void atMost512Calls() {
         sentence("An object is used for at most 512 calls after it has been made");
         checkLast("step(1, 0)", x -> x.step(1, 0), 5);
@@ -281,8 +277,12 @@ public final class TermsTextTest extends Checks {
     }
 
     private static void checkClash(String name, String steps, int state, int cylinder) {
-        due(name + ": clash(0)", text(steps).clash(0), state);
-        due(name + ": clashOf(0)", text(steps).clashOf(0), cylinder);
+        AirSteps x = text(steps);
+        due(name + ": clash(0)", x.clash(0), state);
+        due(name + ": clashOf(0)", x.clashOf(0), cylinder);
+        x.groups();
+        due(name + ": clash(0) behind groups()", x.clash(0), state);
+        due(name + ": clashOf(0) behind groups()", x.clashOf(0), cylinder);
     }
 
     private static void checkCuts(String steps, int... cuts) {
@@ -353,9 +353,12 @@ public final class TermsTextTest extends Checks {
     private static void memories() {
         sentence("the least number m, so that 2 to the power m is not less than how many STEPS the most of which are ALIKE");
         int[] want = {0, 1, 2, 2, 3, 3, 3, 3};
+        AirSteps x = new AirSteps();
         for (int alike = 1; alike <= 8; alike++) {
-            // state 0 stands ahead of each A+
-            due(alike + " are alike: memories()", loop(2 * alike).memories(), want[alike - 1]);
+            // of the cylinders one by one: each goes out at STATE 0
+            x.step(1 << (alike - 1) % 6, 0);
+            x.step(0, 1 << (alike - 1) % 6);
+            due(alike + " are alike: memories()", x.memories(), want[alike - 1]);
         }
         due("none are alike: memories()", text("A+ B+ C+ A- B- C-").memories(), 0);
         due("two and two are alike: memories()", text("A+ B+ C+ C- B- A-").memories(), 1);

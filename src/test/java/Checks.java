@@ -32,13 +32,9 @@ abstract class Checks {
         for (int argument : arguments) due(call + "(" + argument + ")", asked.applyAsInt(argument), want);
     }
 
-    static boolean isRight() {
-        return wrong == 0;
-    }
-
     static void end(String test) {
-        System.out.println(test + (isRight() ? ": all as due" : ": " + wrong + " wrong"));
-        if (!isRight()) System.exit(1);
+        System.out.println(test + (wrong == 0 ? ": all as due" : ": " + wrong + " wrong"));
+        if (wrong != 0) System.exit(1);
     }
 
     /** Pairs: outs, ins of one step and the next. */

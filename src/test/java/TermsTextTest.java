@@ -343,7 +343,8 @@ public final class TermsTextTest extends Checks {
 
     private static void clashWithGroups() {
         sentence("A CLASH with GROUPS is told likewise");
-        String[] texts = {"A+ A-", "A+ B+ B- A-", "A+ A- B+ B-", "A+ B+ A-B-", LATE_CLASH, SIXTEEN};
+        String[] texts = {"A+ A-", "A+ B+ B- A-", "A+ A- B+ B-", "A+ A- B+ B- C+ C-", "A+ B+ B- A- C+ C- D+ D-", "A+ B+ A-B-",
+            LATE_CLASH, SIXTEEN};
         for (String steps : texts) {
             due(steps + ": clash(1)", text(steps).clash(1), NONE);
             due(steps + ": clashOf(1)", text(steps).clashOf(1), NONE);

@@ -1,17 +1,14 @@
-import java.io.IOException;
 import java.lang.reflect.Constructor;
 import java.lang.reflect.Field;
 import java.lang.reflect.Member;
 import java.lang.reflect.Method;
 import java.lang.reflect.Modifier;
-import java.nio.file.Files;
-import java.nio.file.Path;
 import java.util.ArrayList;
 import java.util.List;
 import java.util.Set;
 import java.util.TreeSet;
 
-/** The public face, the words that the language leaves out, and wild arguments in any state. */
+/** The public face, and wild arguments in any state. */
 public final class FaceTest extends Checks {
     private static final String[] METHODS = {"step(int,int)", "drop()", "sound()", "state(int)", "clash(int)",
         "clashOf(int)", "groups()", "cut(int)", "memories()", "pace(int,boolean,int,int)", "span(int)",
@@ -23,7 +20,6 @@ public final class FaceTest extends Checks {
         methods();
         constructors();
         classesInside();
-        wordsLeftOut();
         wildArguments();
         end("FaceTest");
     }
@@ -90,16 +86,6 @@ public final class FaceTest extends Checks {
             due("static: " + inside.getName(), Modifier.isStatic(m), true);
             due("hidden: " + inside.getName(), Modifier.isPublic(m) || Modifier.isProtected(m), false);
         }
-    }
-
-    private static void wordsLeftOut() throws IOException {
-        String source = Files.readString(Path.of("src/main/java/AirSteps.java"));
-        String code = source.replaceAll("(?s)/\\*.*?\\*/", " ").replaceAll("//[^\n]*", " ");
-        Set<String> words = new TreeSet<>(List.of(code.split("[^A-Za-z0-9_]+")));
-        for (String word : new String[] {"throw", "throws", "try", "catch", "synchronized", "assert", "package"}) {
-            due("the source has the word " + word, words.contains(word), false);
-        }
-        due("the source has a lambda or a method reference", code.contains("->") || code.contains("::"), false);
     }
 
     private static void wildArguments() {
